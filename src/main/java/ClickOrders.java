@@ -222,7 +222,7 @@ public final class ClickOrders {
         checkRows(n, pages);
         checkMore(m);
         search.goes(n, pages, true);
-        return search.spent ? SPENT : search.stuckCount(m);
+        return search.spent ? SPENT : search.stuckCount(m, MOST_PAGES);
     }
 
     public int tell(int code) throws IllegalArgumentException {
@@ -281,11 +281,12 @@ public final class ClickOrders {
             setKey = key;
             safeSet = NONE;
             int kept = forms.on;
-            int set = forms.nextSet(NONE);
+            forms.ranksSets();
             search.forgetsBadRow();
-            for (int k = 0; k < 1 << Forms.MOST && set >= 0 && safeSet < 0; k++) {
+            int set = forms.nextSet(NONE);
+            for (int k = 0; k < Forms.SETS && set >= 0 && safeSet < 0; k++) {
                 forms.turns(set);
-                if (search.isClean(n, pages) && search.stuckCount(m) == 0) {
+                if (forms.isNewWork(present.asked) && search.isClean(n, pages) && search.stuckCount(m, 1) == 0) {
                     safeSet = set;
                 }
                 set = forms.nextSet(set);
@@ -499,7 +500,6 @@ public final class ClickOrders {
             int at = line * MOST;
             for (int k = 0; k < MOST; k++) {
                 cells[ANSWERS + at + k] = 0;
-                cells[ASKERS + at + k] = 0;
             }
             cells[WAITING + line] = 0;
         }
@@ -519,7 +519,6 @@ public final class ClickOrders {
             System.arraycopy(cells, ANSWERS + at + 1, cells, ANSWERS + at, MOST - 1);
             System.arraycopy(cells, ASKERS + at + 1, cells, ASKERS + at, MOST - 1);
             cells[ANSWERS + at + MOST - 1] = 0;
-            cells[ASKERS + at + MOST - 1] = 0;
             cells[WAITING + line] = held - 1;
             return first;
         }
@@ -560,7 +559,6 @@ public final class ClickOrders {
             System.arraycopy(cells, CLOCKS + k + 1, cells, CLOCKS + k, MOST - 1 - k);
             System.arraycopy(cells, SETTERS + k + 1, cells, SETTERS + k, MOST - 1 - k);
             cells[CLOCKS + MOST - 1] = 0;
-            cells[SETTERS + MOST - 1] = 0;
             cells[TICKING]--;
         }
 
@@ -628,6 +626,7 @@ public final class ClickOrders {
         int length = 0;
         int steps = 0;
         int handlers = 0;
+        int asked = 0;
         int harm = NONE;
         int place = NONE;
 
@@ -640,6 +639,7 @@ public final class ClickOrders {
             length = 0;
             steps = 0;
             handlers = 0;
+            asked = 0;
             harm = NONE;
             place = NONE;
         }
@@ -650,6 +650,7 @@ public final class ClickOrders {
             }
             orders[length] = order;
             marks[length] = mark;
+            asked |= order == ASK ? 1 << mark : 0;
             length++;
             return length - 1;
         }
@@ -976,7 +977,7 @@ public final class ClickOrders {
                 return 0;
             }
             int found = 0;
-            for (int k = at; isDigit(k); k++) {
+            for (int k = at; k < length && isDigit(k); k++) {
                 found = Math.min(found * 10 + text[k] - '0', MOST_NUMBER + 1);
                 cursor = k + 1;
             }
@@ -1064,6 +1065,7 @@ public final class ClickOrders {
         static final int BAR = 0;
         static final int LATEST = 1;
         static final int MOST = 6;
+        static final int SETS = 64;
 
         final int[] sorts = new int[MOST];
         final int[] things = new int[MOST];
@@ -1074,6 +1076,9 @@ public final class ClickOrders {
         int on = 0;
         int latest = 0;
         int fresh = 0;
+        private final int[] ranks = new int[SETS];
+        private final long[] works = new long[SETS];
+        private int worksKept = 0;
 
         int adds(int sort, int thing, int line, int price) {
             if (count >= MOST) {
@@ -1117,29 +1122,46 @@ public final class ClickOrders {
             return sum;
         }
 
-        /** Of the sets that are worse than the last one (of all at NONE) the best; NONE if there is none. */
+        /** By the price, then by how many, then by the least form that only one of two sets has. */
+        void ranksSets() {
+            for (int set = 0; set < 1 << count && set < SETS; set++) {
+                int forward = 0;
+                for (int k = 0; k < count; k++) {
+                    forward |= (set >> k & 1) << MOST - 1 - k;
+                }
+                ranks[set] = (priceOf(set) * 8 + Integer.bitCount(set)) * SETS + SETS - 1 - forward;
+            }
+            worksKept = 0;
+        }
+
+        /** The set that comes next behind the last one (NONE: the first of all), by their ranks; NONE if there is none. */
         int nextSet(int last) {
+            int floor = last < 0 || last >= SETS ? NONE : ranks[last];
             int best = NONE;
-            for (int set = 0; set < 1 << count; set++) {
-                boolean isBehind = last < 0 || isBetter(last, set);
-                if (isBehind && (best < 0 || isBetter(set, best))) {
+            for (int set = 0; set < 1 << count && set < SETS; set++) {
+                if (ranks[set] > floor && (best < 0 || ranks[set] < ranks[best])) {
                     best = set;
                 }
             }
             return best;
         }
 
-        private boolean isBetter(int one, int other) {
-            int price = priceOf(one) - priceOf(other);
-            if (price != 0) {
-                return price < 0;
+        /** Whether no set ahead worked alike: forms on lines that are never asked do nothing. */
+        boolean isNewWork(int asked) {
+            long work = (long) (latest & asked) << 4 | fresh & asked;
+            for (int k = 0; k < THINGS; k++) {
+                work = work << 4 | bars[k] & asked;
             }
-            int size = Integer.bitCount(one) - Integer.bitCount(other);
-            if (size != 0) {
-                return size < 0;
+            for (int k = 0; k < worksKept; k++) {
+                if (works[k] == work) {
+                    return false;
+                }
             }
-            int differing = one ^ other;
-            return (one & differing & -differing) != 0;
+            if (worksKept < SETS) {
+                works[worksKept] = work;
+                worksKept++;
+            }
+            return true;
         }
     }
 
@@ -1553,9 +1575,10 @@ public final class ClickOrders {
 
         private long allAhead(int j) {
             long all = 0;
+            int freer = freed(j);
             for (int i = 0; i < j; i++) {
                 boolean isLike = codes[j] >= CLOCK_CODE && codes[i] == codes[j];
-                if (isLike || i == begetters[j] || i == freed(j)) {
+                if (isLike || i == begetters[j] || i == freer) {
                     all |= 1L << i | ahead[i];
                 }
             }
@@ -1587,6 +1610,7 @@ public final class ClickOrders {
         private final int[] table = new int[TABLE];
         private final int[] slots = new int[ROOM];
         private int slot = 0;
+        private int used = Page.ALIKE;
 
         void empties() {
             for (int k = 0; k < size; k++) {
@@ -1597,6 +1621,7 @@ public final class ClickOrders {
 
         /** Its number, or NONE; the slot where it would stand is kept for the next add. */
         int seeks(Page page) {
+            used = page.isQuiet() ? Page.ANSWERS : Page.ALIKE;
             slot = hash(page);
             for (int k = 0; k < TABLE; k++) {
                 int found = table[slot] - 1;
@@ -1629,9 +1654,10 @@ public final class ClickOrders {
             }
         }
 
+        /** Where nothing is to come, all cells of answers and clocks are 0, and are not looked at. */
         private boolean isAt(int found, Page page) {
             int from = found * Page.ALIKE;
-            for (int k = 0; k < Page.ALIKE; k++) {
+            for (int k = 0; k < used; k++) {
                 if (cells[from + k] != page.cells[k]) {
                     return false;
                 }
@@ -1641,7 +1667,7 @@ public final class ClickOrders {
 
         private int hash(Page page) {
             int sum = 0;
-            for (int k = 0; k < Page.ALIKE; k++) {
+            for (int k = 0; k < used; k++) {
                 sum = sum * 31 + page.cells[k];
             }
             sum *= 0x9E3779B1;
@@ -1732,12 +1758,15 @@ public final class ClickOrders {
             return codes[at];
         }
 
-        /** Of the pages that the search met; those that are only met beyond its rows are not asked. */
-        int stuckCount(int m) {
+        /** Of the pages that the search met, till enough are found; those only met beyond its rows are not asked. */
+        int stuckCount(int m, int enough) {
+            if (hand.program.place < 0) {
+                return 0;
+            }
             Arrays.fill(near, 0, met.size, NEVER);
             Arrays.fill(tried, 0, met.size, NONE);
             int sum = 0;
-            for (int k = 0; k < found; k++) {
+            for (int k = 0; k < found && sum < enough; k++) {
                 if (!gets(k, m)) {
                     sum++;
                 }
@@ -1852,28 +1881,35 @@ public final class ClickOrders {
                 }
                 tried[k] = 0;
             }
-            if (more > 0 && !isSpread[k]) {
-                spreads(k, true);
-            }
-            for (int code = 0; code < CODES && more > 0; code++) {
-                int to = next[k * CODES + code];
-                boolean isReached = to >= 0 && to != k && gets(to, more - 1);
-                if (to == NO_ROOM) {
-                    Page start = loose[MOST_MORE - 1];
-                    met.copies(k, start);
-                    hand.happens(start, code, NONE);
-                    isReached = reaches(start, more - 1);
+            Page start = loose[MOST_MORE - 1];
+            boolean isReached = false;
+            if (more == 1 && !isSpread[k]) {
+                met.copies(k, start);
+                isReached = reaches(start, 1);
+            } else if (more > 0) {
+                if (!isSpread[k]) {
+                    spreads(k, true);
                 }
-                if (isReached) {
-                    near[k] = more;
-                    return true;
+                for (int code = 0; code < CODES && !isReached; code++) {
+                    int to = next[k * CODES + code];
+                    if (to == NO_ROOM) {
+                        met.copies(k, start);
+                        hand.happens(start, code, NONE);
+                        isReached = reaches(start, more - 1);
+                    } else {
+                        isReached = to >= 0 && to != k && gets(to, more - 1);
+                    }
                 }
             }
-            tried[k] = more;
-            return false;
+            if (isReached) {
+                near[k] = more;
+            } else {
+                tried[k] = more;
+            }
+            return isReached;
         }
 
-        /** As above, for a page that found no room among those met. */
+        /** As above, but without keeping the pages on the way: for the last of them, and where there is no room left. */
         private boolean reaches(Page start, int more) {
             if (hand.isGood(start)) {
                 return true;
@@ -1882,13 +1918,17 @@ public final class ClickOrders {
                 return false;
             }
             Page then = loose[more - 1];
+            boolean isStill = start.ticking() == 0;
             for (int code = 0; code < CODES; code++) {
-                if (hand.may(start, code)) {
-                    then.copies(start);
-                    hand.happens(then, code, NONE);
-                    if (reaches(then, more - 1)) {
-                        return true;
-                    }
+                boolean isIdle = hand.program.isIdle(code);
+                if (isIdle && isStill || !hand.may(start, code)) {
+                    continue;
+                }
+                isStill = isStill || isIdle;
+                then.copies(start);
+                hand.happens(then, code, NONE);
+                if (reaches(then, more - 1)) {
+                    return true;
                 }
             }
             return false;

@@ -29,6 +29,10 @@ public final class CrossingTest {
         DUE.is("the latest", x.ordered(5, 7), true);
         DUE.is("not the one ahead of it", x.ordered(1, 7), false);
         DUE.is("clocks are ordered", clocksAreOrdered(), true);
+        ClickOrders first = DUE.of("on start{hide 1;grey 2;}on press 0{show 1;live 2;}");
+        DUE.comes(first, 0, 1, 2);
+        DUE.is("freed by the first happening", first.ordered(0, 1), true);
+        DUE.is("and made live by it", first.ordered(0, 2), true);
     }
 
     private static boolean clocksAreOrdered() {

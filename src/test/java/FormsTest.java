@@ -41,6 +41,18 @@ public final class FormsTest {
         DUE.comes(x, 10);
         DUE.is("behind the answer it can", x.can(1), true);
         DUE.is("the run went on", x.count(2), 2);
+        ClickOrders two = DUE.of("on press 0{ask 1 5;}on press 2{ask 3 5;}");
+        two.form(0, 1, 1, 1);
+        two.form(0, 1, 3, 1);
+        two.use(0, true);
+        two.use(1, true);
+        DUE.is("with nothing to come", two.can(1), true);
+        DUE.comes(two, 0);
+        DUE.is("by the first form", two.can(1), false);
+        DUE.comes(two, 10, 2);
+        DUE.is("by the second form", two.can(1), false);
+        two.use(1, false);
+        DUE.is("by the first form alone", two.can(1), true);
     }
 
     private static void sortOne() {
@@ -103,6 +115,9 @@ public final class FormsTest {
         DUE.is("without forms, safe by 2", x.cheapest(2, 0, 600, 0), 0);
         DUE.is("its price", x.cheapest(2, 0, 600, 1), 0);
         DUE.is("without forms, none by 3", x.cheapest(3, 0, 600, 0), -1);
+        DUE.is("safe by 2 and 1 more", x.cheapest(2, 1, 600, 0), 0);
+        DUE.is("without forms, none by 3 with 500 pages", x.cheapest(3, 0, 500, 0), -1);
+        DUE.is("safe by 2 with 504", x.cheapest(2, 0, 504, 0), 0);
         DUE.is("nor a price", x.cheapest(3, 0, 600, 1), -1);
         x.form(2, 0, 0, 3);
         x.form(0, 1, 0, 7);

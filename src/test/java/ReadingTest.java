@@ -76,6 +76,10 @@ public final class ReadingTest {
         well("on start{a=((((((1))))));}", 1);
         well("on start{a=(1)+(1)+(1)+(1)+(1)+(1)+(1)+(1);}", 1);
         well("on start{a=least(1,most(b,h))*got/far 3-000999;}", 1);
+        well("on start{a=least(1,1)+least(1,1)+most(1,1)+most(1,1)+least(1,1)+most(1,1)+least(1,1);}", 1);
+        well("harm not a=1 or not a=1 or not a=1 or not a=1 or not a=1 or not a=1 or not a=1;", 0);
+        well("harm [a=1]or[a=1]or[a=1]or[a=1]or[a=1]or[a=1]or[a=1];", 0);
+        well("on start{" + times("if a=1 fail;", 7) + "}", 14);
         well("harm not not not not not not a=1;", 0);
         well("harm [[[[[[a=1]]]]]] and not [b=1] or c=2;", 0);
         well("on start{" + times("fail;", 60) + "}", 60);
@@ -171,6 +175,27 @@ public final class ReadingTest {
         bad("on answer 0{}on clock 0{}on answer 0{}", 4, 25);
     }
 
+    /** Bytes behind the first n are on the tape, but no part of the text. */
+    private static void theFirstOnes() {
+        String text = "on press 1{if not[a=1]and b=least(1,far 2)ask 1 got*12;}harm a=1;";
+        for (int n = 0; n <= text.length(); n++) {
+            ClickOrders whole = new ClickOrders();
+            Due.feeds(whole, text);
+            ClickOrders part = new ClickOrders();
+            int steps = Due.reads(part, text.substring(0, n));
+            DUE.is("program(" + n + ")", whole.program(n), steps);
+            DUE.is("fault() behind program(" + n + ")", whole.fault(), part.fault());
+            boolean isWell = n == 0 || n == 56 || n == text.length();
+            DUE.is("program(" + n + ") is well read", steps >= 0, isWell);
+            DUE.is("the fault of program(" + n + ") is its end", part.fault() == n || part.fault() >= 0 && isWord(text, n), !isWell);
+        }
+    }
+
+    /** Whether the text is cut within a word, which is no word then. */
+    private static boolean isWord(String text, int n) {
+        return Character.isLowerCase(text.charAt(n - 1));
+    }
+
     private static void begunAnew() {
         ClickOrders x = DUE.of("on start{a=7;save 0 3;}on press 0{b=b+1;}");
         x.come(0);
@@ -189,13 +214,13 @@ public final class ReadingTest {
     }
 
     private static void counts() {
-        ClickOrders x = DUE.of("on start{ask 0 1;ask 3 2;clock 1 5;}on press 0{if a=0 a=1;}");
+        ClickOrders x = DUE.of("on start{ask 0 1;ask 1 2;ask 2 3;ask 2 4;ask 3 2;clock 1 5;}on press 0{if a=0 a=1;}");
         x.come(1);
         x.form(1, 0, 0, 0);
         x.form(2, 0, 0, 0);
         x.tell(4);
         x.feed(0, 0, 0, 0, 0);
-        int[] due = {5, 2, 1, 2, 1, 2, 1, 20, -1};
+        int[] due = {8, 2, 1, 5, 1, 2, 1, 20, -1};
         for (int k = 0; k < due.length; k++) {
             DUE.is("count(" + k + ")", x.count(k), due[k]);
         }
@@ -209,6 +234,7 @@ public final class ReadingTest {
         numbersAndPlaces();
         tooMany();
         toldTwice();
+        theFirstOnes();
         begunAnew();
         counts();
         DUE.ends();

@@ -43,6 +43,11 @@ public final class RowsTest {
         DUE.is("stuck is spent, too", x.stuck(8, 0, 5), -2);
         DUE.is("worst behind pages", x.worst(8, 5), 4);
         DUE.is("pages by 0", x.pages(0, 1), 1);
+        DUE.is("worst(4, 8)", x.worst(4, 8), 4);
+        DUE.is("worst(3, 9)", x.worst(3, 9), -1);
+        DUE.is("worst(8, 4)", x.worst(8, 4), -2);
+        DUE.is("pages(3, 9)", x.pages(3, 9), 4);
+        DUE.is("pages(4, 8)", x.pages(4, 8), 5);
     }
 
     private static void alike() {
@@ -74,6 +79,13 @@ public final class RowsTest {
         ClickOrders waiting = DUE.of("on press 0{ask 0 1;}on answer 0{a=1;}place far 0=1 or a=1;");
         DUE.is("place holds though something is to come", waiting.stuck(2, 1, 600), 1);
         DUE.is("the last place counts", DUE.of("place a=1;place a=0;").stuck(1, 0, 9), 0);
+        ClickOrders back = DUE.of("on press 0{a=1;}on press 1{a=0;}place a=0;");
+        DUE.is("back to the first page", back.stuck(1, 1, 600), 0);
+        DUE.is("not by none", back.stuck(1, 0, 600), 1);
+        ClickOrders idle = DUE.of("on start{clock 0 2;}on clock 0{a=1;}on press 0{fail;}place a=0 and far 0=0;");
+        DUE.is("presses that do nothing", idle.stuck(2, 1, 600), 2);
+        ClickOrders failed = DUE.of("on press 0{clock 0 1;clock 0 1;clock 0 1;clock 0 1;a=1;}place a=1;");
+        DUE.is("never, as it fails", failed.stuck(1, 3, 600), 2);
     }
 
     private static void wideStuck() {
@@ -84,6 +96,40 @@ public final class RowsTest {
         ClickOrders y = DUE.of("on press 0{a=a*2;}on press 1{a=a*2+1;}on press 2{b=b*3+1;}on press 3{b=b*3+2;}on press 4{c=c+1;}"
             + "on press 5{c=c*2+5;}on press 6{d=d+7;}on press 7{d=d*3+1;}place d=22 and c=1;");
         DUE.is("some are not", y.stuck(2, 3, 600), PlainPages.STUCK);
+    }
+
+    /** 8, 64 and 512 pages by 1, 2 and 3: what stands behind them is far more than can be kept. */
+    private static void noRoom() {
+        StringBuilder text = new StringBuilder();
+        for (int k = 0; k < 8; k++) {
+            text.append("on press ").append(k).append("{a=a*9+").append(k + 1).append(";}");
+        }
+        ClickOrders x = DUE.of(text + "place a>9*9*9*9*9 and a-a/9*9=8;");
+        DUE.is("pages by 3", x.pages(3, 600), 585);
+        DUE.is("by 3 and 3 more all of the last 512 get there", x.stuck(3, 3, 600), 73);
+        DUE.is("by 2 more none", x.stuck(3, 2, 600), 585);
+        DUE.is("too few pages", x.stuck(3, 3, 584), -2);
+        Due.reads(x, text + "place a>9*9*9*9 and a-a/9*9=8;");
+        DUE.is("by 3 and 2 more", x.stuck(3, 2, 600), 73);
+        DUE.is("by 2 and 3 more", x.stuck(2, 3, 600), 9);
+        Due.reads(x, text + "place a=9*9*9*9*9*7+1+9*(2+9*(3+9*(4+9*5)));");
+        DUE.is("one page of all", x.stuck(3, 3, 600), 584);
+    }
+
+    /** Nothing of rows ahead is left when another program is asked. */
+    private static void nothingLeft() {
+        ClickOrders x = DUE.of("on press 0{a=a+1;}place a=3;");
+        DUE.is("the first", x.stuck(5, 3, 600), 2);
+        Due.reads(x, "on press 5{b=1;}place b=1;");
+        DUE.is("the second", x.stuck(0, 1, 600), 0);
+        Due.reads(x, "on press 5{b=1;}on press 6{b=2;}place b=2;");
+        DUE.is("the third", x.stuck(0, 1, 600), 0);
+        DUE.is("the third by none", x.stuck(1, 0, 600), 2);
+        Due.reads(x, "on press 5{b=1;}place b=2;");
+        DUE.is("the fourth", x.stuck(1, 2, 600), 2);
+        DUE.is("its worst", x.worst(3, 600), -1);
+        Due.reads(x, "on press 5{fail;}place b=2;");
+        DUE.is("the fifth's worst", x.worst(3, 600), 1);
     }
 
     /** What the plain model says of the programs above, counted once. */
@@ -127,6 +173,8 @@ public final class RowsTest {
         DUE.is("the new one is empty", x.newer(8, 600), -1);
         Due.reads(x, "on start{fail;}");
         DUE.is("a start that fails", x.newer(0, 1), 0);
+        Due.reads(x, "on press 0{fail;}");
+        DUE.is("the old one spoils by none", x.newer(1, 600), -1);
     }
 
     private static void limits() {
@@ -162,6 +210,8 @@ public final class RowsTest {
         alike();
         stuck();
         wideStuck();
+        noRoom();
+        nothingLeft();
         versions();
         limits();
         besideTheRun();

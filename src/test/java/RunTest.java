@@ -21,6 +21,9 @@ public final class RunTest {
     private static void values() {
         worth("1+2*3", 7);
         worth("(1+2)*3", 9);
+        worth("2*3+4", 10);
+        worth("2-3*2+1", -3);
+        worth("80/4/2", 10);
         worth("10-4-3", 3);
         worth("b/2", 3);
         worth("c/2", -1);
@@ -48,6 +51,8 @@ public final class RunTest {
         holds("b=7 and c=1", false);
         holds("b=7 or b=1 and b=2", true);
         holds("[b=7 or b=1] and b=2", false);
+        holds("b=1 and b=2 or b=7", true);
+        holds("b=1 and b=7 and b=7 or b=2 or b=3", false);
         holds("not b=1 and c<0", true);
         holds("not [b=1 or c<0]", false);
         holds("b+c=2+2", true);
@@ -206,6 +211,10 @@ public final class RunTest {
         DUE.is("a clock is to come", x.spoilt(), false);
         DUE.comes(x, 8);
         DUE.is("nothing is to come", x.spoilt(), true);
+        ClickOrders got = DUE.of("on press 0{ask 0 5;}on answer 0{a=got;}harm got=5;");
+        DUE.comes(got, 0, 9);
+        DUE.is("got is 0 for harm", got.spoilt(), false);
+        DUE.is("got is 0 for harm and place in rows", DUE.of("on press 0{ask 0 5;}harm got=5;place got=0;").worst(3, 600), -1);
         DUE.is("but not failed", x.failed(), false);
     }
 

@@ -19,7 +19,11 @@ final class Texts {
             things = 2 + random.nextInt(random.nextInt(4) == 0 ? 7 : 3);
             lines = 1 + random.nextInt(random.nextInt(4) == 0 ? 4 : 2);
             names = 1 + random.nextInt(random.nextInt(4) == 0 ? 8 : 3);
-            parts();
+            if (random.nextInt(4) == 0) {
+                raced();
+            } else {
+                parts();
+            }
             text = out.toString();
         } while (text.length() > 600);
         return text;
@@ -43,6 +47,30 @@ final class Texts {
             bad.setLength(600);
         }
         return bad.toString();
+    }
+
+    private String one(String... of) {
+        return of[random.nextInt(of.length)];
+    }
+
+    /** Presses that ask, answers that clear what they set, and presses that should not come between: what forms are for. */
+    private void raced() {
+        for (int line = 0; line < lines && line < 2; line++) {
+            String flag = line == 0 ? "a" : "b";
+            String sum = line == 0 ? "c" : "d";
+            if (random.nextInt(3) == 0) {
+                out.append("on ").append(one("clock ", "press ")).append(line).append('{').append(flag).append("=1;ask ").append(line).append(' ').append(one("1", sum, "far 0")).append(";}");
+            } else {
+                out.append("on press ").append(line * 2).append("{ask ").append(line).append(' ').append(one("1", "2", sum + "+1"));
+                out.append(';').append(flag).append("=1;").append(one("", "hide 1;", "grey 3;", "clock 0 1;")).append('}');
+            }
+            out.append("on answer ").append(line).append('{').append(flag).append("=0;").append(sum).append('=');
+            out.append(one("got", "got+" + sum, "1")).append(';').append(one("", "show 1;", "live 3;", "save 0 1;")).append('}');
+            out.append("on press ").append(line * 2 + 1).append("{if ").append(flag).append("=1 ").append(one("e=1;", "fail;", "stop 0;"));
+            out.append('}');
+        }
+        out.append("harm ").append(one("e=1", "c=1", "c=1 and a=0", "d>1", "e=1 or d=2")).append(';');
+        out.append(one("", "place a=0;", "place a=0 and b=0;", "place c=0 or c=3;"));
     }
 
     private void parts() {

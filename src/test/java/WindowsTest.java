@@ -18,6 +18,11 @@ public final class WindowsTest {
         DUE.is("another row", x.comes(0, 4), 2);
         DUE.is("is lost by itself", x.comes(1, 4), 3);
         DUE.is("windows() tells how many", x.windows(), 3);
+        DUE.is("0 saves a row", x.comes(0, 1), 0);
+        DUE.is("0 saves another row", x.comes(0, 4), 0);
+        DUE.is("1 loses the first", x.comes(1, 1), 1);
+        DUE.is("1 loses the other", x.comes(1, 4), 2);
+        DUE.is("windows() again", x.windows(), 2);
         DUE.is("and none behind", x.windows(), 0);
         DUE.is("begun anew", x.comes(1, 1), 0);
     }
