@@ -1346,11 +1346,14 @@ public final class ClickOrders {
                 case Program.WIND:
                     return page.takesClock(mark, number);
                 case Program.ASK:
-                    writes |= 1 << LINE_ITEMS + mark;
                     if ((forms.fresh >> mark & 1) != 0) {
                         page.empties(mark);
                     }
-                    return page.takesAnswer(mark, pops(), number);
+                    if (!page.takesAnswer(mark, pops(), number)) {
+                        return false;
+                    }
+                    writes |= 1 << LINE_ITEMS + mark;
+                    return true;
                 case Program.STOP:
                     writes |= 1 << LINE_ITEMS + mark;
                     page.empties(mark);

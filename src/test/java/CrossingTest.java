@@ -146,6 +146,31 @@ public final class CrossingTest {
         DUE.is("sorts(3) without", x.sorts(3), 1);
     }
 
+    /** An ask that fails for three answers to come writes nothing, and so crosses nobody over its line. */
+    private static void askingFullLines() {
+        ClickOrders x = DUE.of("on press 0{ask 1 5;}on press 1{b=1;ask 1 6;}on press 2{a=b;}");
+        DUE.comes(x, 0, 0, 0, 1, 2, 0);
+        int[] due = {1, 2, 64 + 2, 3 * 64 + 4, -1};
+        DUE.is("crossings() with asks that fail", x.crossings(), 4);
+        for (int k = 0; k < due.length; k++) {
+            DUE.is("crossing(" + k + ") with asks that fail", x.crossing(k), due[k]);
+        }
+        DUE.is("why of an ask and one that failed", x.why(2, 3), -1);
+        DUE.is("why of two that failed", x.why(3, 5), -1);
+        DUE.is("why of what was done ahead of the ask", x.why(4, 3), 1);
+        DUE.is("turn of an ask and one that failed", x.turn(5, 0), -1);
+        DUE.is("turn of what was done ahead of the ask", x.turn(3, 4), 3);
+        int[] tally = {0, 3, 0, 1, 0};
+        for (int k = 0; k < 5; k++) {
+            DUE.is("sorts(" + k + ") with asks that fail", x.sorts(k), tally[k]);
+        }
+        DUE.comes(x, 10);
+        DUE.is("the answer was begot by the first ask", x.why(0, 6), -1);
+        DUE.is("the answer and another ask", x.why(2, 6), 21);
+        DUE.is("the answer and an ask that failed", x.why(5, 6), -1);
+        DUE.is("crossings() with the answer", x.crossings(), 6);
+    }
+
     private static void sorts() {
         ClickOrders x = DUE.of("on press 0{a=a+1;}on press 1{a=a+2;}on press 2{b=1;}on press 3{if b=1 fail;}on press 4{b=2;}");
         DUE.comes(x, 0, 0, 1, 3, 2, 4);
@@ -180,6 +205,7 @@ public final class CrossingTest {
         lastingElsewhere();
         between();
         leftOut();
+        askingFullLines();
         sorts();
         manyCrossings();
         DUE.ends();

@@ -461,7 +461,6 @@ final class PlainOrders {
             }
             case "ask" -> {
                 int number = value(on, node.parts().get(0));
-                writes |= 1 << 20 + k;
                 if (isOn(2, -1, k)) {
                     on.lines.get(k).clear();
                 }
@@ -469,6 +468,7 @@ final class PlainOrders {
                     throw new Failing();
                 }
                 on.lines.get(k).add(new Answer(number, by));
+                writes |= 1 << 20 + k;
             }
             case "stop" -> {
                 on.lines.get(k).clear();

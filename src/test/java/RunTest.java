@@ -238,6 +238,35 @@ public final class RunTest {
         DUE.throwing("happening(3, 4)", NoSuchElementException.class, () -> x.happening(3, 4));
     }
 
+    /** An ask with three answers to come brings none, so that it writes nothing; what was done ahead of it is written. */
+    private static void askingFullLines() {
+        int line = 1 << 21;
+        ClickOrders x = DUE.of("on press 0{a=b;ask 1 5;c=1;}on press 1{ask 1 6;ask 1 7;ask 1 8;}on press 2{stop 1;}"
+                + "on press 3{ask 1 9;}on press 4{if a=0 ask 1 9;}on answer 1{ask 1 1;ask 1 2;}");
+        DUE.comes(x, 0, 0, 0);
+        DUE.is("an ask that is done writes its line", x.happening(2, 3), 1 | 4 | line);
+        DUE.comes(x, 0, 3, 4);
+        DUE.is("what it did ahead of the ask is written, its line not", x.happening(3, 3), 1);
+        DUE.is("what it read stays read", x.happening(3, 2) & (2 | 1 << 8), 2 | 1 << 8);
+        DUE.is("an ask alone that fails writes nothing", x.happening(4, 3), 0);
+        DUE.is("nor one behind an if", x.happening(5, 3), 0);
+        DUE.is("three are to come as ahead of it", x.line(1, -1), 3);
+        DUE.comes(x, 10);
+        DUE.is("an answer writes its line, also if its handler fails", x.happening(6, 3), line);
+        DUE.comes(x, 2, 2, 1, 1);
+        DUE.is("a stop writes its line", x.happening(7, 3), line);
+        DUE.is("a stop of none, too", x.happening(8, 3), line);
+        DUE.is("three asks that are done", x.happening(9, 3), line);
+        DUE.is("three asks, of which the first fails", x.happening(10, 3), 0);
+        DUE.comes(x, 2, 0, 1);
+        DUE.is("asks of which the third fails: the others write", x.happening(13, 3), line);
+        x.form(2, 0, 1, 0);
+        x.use(0, true);
+        DUE.comes(x, 0);
+        DUE.is("with form 2 the ask is done", x.happening(14, 3), 1 | 4 | line);
+        DUE.is("with form 2 one is to come", x.line(1, -1), 1);
+    }
+
     private static void begetting() {
         ClickOrders x = DUE.of("on press 0{ask 0 1;}on answer 0{ask 1 2;clock 2 3;}");
         DUE.comes(x, 0, 0, 9, 9, 10, 8, 8, 10);
@@ -275,6 +304,7 @@ public final class RunTest {
         failures();
         spoiling();
         touching();
+        askingFullLines();
         begetting();
         forty();
         DUE.ends();
