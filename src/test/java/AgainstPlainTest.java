@@ -5,6 +5,7 @@ import java.util.function.Supplier;
 
 /** Runs of calls at random, each call on ClickOrders and on PlainOrders: the answers must be the same. */
 public final class AgainstPlainTest {
+    private static final int MOST_CALLS = 512;
     private static int wrong = 0;
     /** How often which answer came, to see what the runs reach; only kept if asked for. */
     private static java.util.TreeMap<String, Integer> tally = null;
@@ -30,7 +31,11 @@ public final class AgainstPlainTest {
         }
     }
 
-    private String same(String call, Supplier<Object> one, Supplier<Object> other) {
+    /** Behind the 512th call of an object nothing is promised any more. */
+    private void same(String call, Supplier<Object> one, Supplier<Object> other) {
+        if (calls >= MOST_CALLS) {
+            return;
+        }
         String got = answer(one);
         String due = answer(other);
         log.add(call + " " + due);
@@ -44,7 +49,6 @@ public final class AgainstPlainTest {
             System.out.println(String.join("\n", log));
             System.out.println("  answered " + got + ", due is " + due);
         }
-        return due;
     }
 
     private void reads(String text) {
@@ -187,7 +191,7 @@ public final class AgainstPlainTest {
     }
 
     private void goes() {
-        while (calls < 500 && !isOff) {
+        while (calls < MOST_CALLS && !isOff) {
             switch (random.nextInt(10)) {
                 case 0 -> {
                     String text = texts.program();

@@ -54,6 +54,64 @@ final class Due {
         return x;
     }
 
+    /** The text is a program of so many steps. */
+    void well(String text, int steps) {
+        ClickOrders x = new ClickOrders();
+        is("program '" + text + "'", reads(x, text), steps);
+        is("fault() behind '" + text + "'", x.fault(), -1);
+        is("count(0) behind '" + text + "'", x.count(0), steps);
+    }
+
+    /** The text has that fault there; the program ahead of it stays, and the tape is empty. */
+    void bad(String text, int kind, int place) {
+        ClickOrders x = of("on press 1{a=1;b=2;}");
+        is("program '" + text + "'", reads(x, text), kind - 10);
+        is("fault() behind '" + text + "'", x.fault(), place);
+        is("the program stays behind '" + text + "'", x.count(0), 2);
+        is("the tape is empty behind '" + text + "'", x.count(7), 0);
+    }
+
+    /** All that can be asked of an object without changing it, in some hundred calls. */
+    static String all(ClickOrders x) {
+        StringBuilder all = new StringBuilder();
+        for (int k = 0; k < 8; k++) {
+            all.append(x.count(k)).append(' ').append(x.name(k)).append(' ').append(x.thing(k)).append(' ');
+            all.append(x.shows(0, k)).append(' ').append(x.shows(1, k)).append(';');
+        }
+        for (int line = 0; line < 4; line++) {
+            all.append(x.far(line)).append('|');
+            for (int k = -1; k < x.line(line, -1); k++) {
+                all.append(x.line(line, k)).append(' ');
+            }
+        }
+        for (int k = -1; k < 3; k++) {
+            all.append(x.clock(k)).append(';');
+        }
+        for (int code = 0; code < 13; code++) {
+            all.append(x.can(code) ? '+' : '-');
+        }
+        all.append(x.failed()).append(x.spoilt()).append(x.fault()).append(' ').append(x.crossings()).append(' ');
+        int latest = x.count(2) - 1;
+        for (int what = 0; what < 4 && latest >= 0; what++) {
+            all.append(x.happening(latest, what)).append(' ');
+        }
+        return all.append(x.told(0)).append(' ').append(x.told(x.count(6) - 1)).toString();
+    }
+
+    /** The call throws what is due, and leaves all else as it was. */
+    void refused(ClickOrders x, String call, Class<? extends RuntimeException> due, Runnable run) {
+        String ahead = all(x);
+        throwing(call, due, run);
+        same(call, all(x), ahead);
+    }
+
+    void same(String call, String got, String want) {
+        if (!got.equals(want)) {
+            wrong++;
+            System.out.println(call + " did not leave all as it was:\n  " + want + "\n  " + got);
+        }
+    }
+
     void comes(ClickOrders x, int... codes) {
         for (int code : codes) {
             is("come(" + code + ") comes", x.come(code) >= 0, true);

@@ -3,18 +3,11 @@ public final class ReadingTest {
     private static final Due DUE = new Due();
 
     private static void well(String text, int steps) {
-        ClickOrders x = new ClickOrders();
-        DUE.is("program '" + text + "'", Due.reads(x, text), steps);
-        DUE.is("fault() behind '" + text + "'", x.fault(), -1);
-        DUE.is("count(0) behind '" + text + "'", x.count(0), steps);
+        DUE.well(text, steps);
     }
 
     private static void bad(String text, int kind, int place) {
-        ClickOrders x = DUE.of("on press 1{a=1;b=2;}");
-        DUE.is("program '" + text + "'", Due.reads(x, text), kind - 10);
-        DUE.is("fault() behind '" + text + "'", x.fault(), place);
-        DUE.is("the program stays behind '" + text + "'", x.count(0), 2);
-        DUE.is("the tape is empty behind '" + text + "'", x.count(7), 0);
+        DUE.bad(text, kind, place);
     }
 
     private static String times(String text, int times) {

@@ -6,6 +6,7 @@ import java.util.function.IntSupplier;
 /** Calls with numbers from everywhere, on programs of all kinds: nothing is thrown but what the document names for the call. */
 public final class WildTest {
     private static final Due DUE = new Due();
+    private static final int MOST_CALLS = 512;
     private static final Set<Class<?>> ARGUMENT = Set.of(IllegalArgumentException.class);
     private static final Set<Class<?>> INDEX = Set.of(IndexOutOfBoundsException.class);
     private static final Set<Class<?>> ELEMENT = Set.of(NoSuchElementException.class);
@@ -13,6 +14,7 @@ public final class WildTest {
 
     private final Random random;
     private final ClickOrders x = new ClickOrders();
+    private int used = 0;
 
     private WildTest(long seed) {
         random = new Random(seed);
@@ -39,6 +41,7 @@ public final class WildTest {
     }
 
     private void calls() {
+        used += 2;
         int a = wild();
         int b = wild();
         int c = wild();
@@ -93,15 +96,16 @@ public final class WildTest {
             text = texts.spoiled(text);
         }
         String read = text;
+        used += 31;
         only("program '" + read + "'", ARGUMENT, () -> Due.reads(x, read));
     }
 
     public static void main(String[] args) {
-        for (long seed = 1; seed <= 300; seed++) {
+        for (long seed = 1; seed <= 600; seed++) {
             WildTest test = new WildTest(seed);
             Texts texts = new Texts(test.random);
-            for (int k = 0; k < 500; k++) {
-                if (k % 60 == 0) {
+            for (int k = 0; test.used < MOST_CALLS - 32; k++) {
+                if (k % 50 == 0) {
                     test.reads(texts);
                 }
                 test.calls();
