@@ -315,6 +315,23 @@ public final class RowEdgesTest {
         DUE.is("25: as the other has 2", first.stuck(0, 2, 1), 0);
     }
 
+    /**
+     * 343 pages by 3 have far more behind them than can be kept, and get there by just one way: press 0 begins two clocks, a
+     * press of nothing takes the one hour that the first of them has left, and that one comes. All else breaks e.
+     */
+    private static void hoursBeyondAll() {
+        StringBuilder text = new StringBuilder("on press 0{if e=1 e=2;if e=0 if a>90 clock 2 1;if e=0 if a>90 clock 0 0;"
+            + "if e=0 if a>90 e=1;a=a*9+1;}");
+        for (int k = 1; k < 7; k++) {
+            text.append("on press ").append(k).append("{if a>90 e=3;a=a*9+").append(k + 1).append(";}");
+        }
+        ClickOrders x = DUE.of(text + "on clock 2{if e=1 b=1;}on clock 0{e=4;}place b=1;");
+        DUE.is("24: 1, 7, 49 and 343", x.pages(3, 600), 400);
+        DUE.is("25: the last 343 get there by 3", x.stuck(3, 3, 600), 57);
+        DUE.is("25: but not by 2", x.stuck(3, 2, 600), 400);
+        DUE.is("25: the 49 do not by 3", x.stuck(2, 3, 600), 57);
+    }
+
     /** 38: none ahead, or spent ahead; none behind, or spent behind. */
     private static void versions() {
         ClickOrders x = DUE.of("on press 0{a=a+1;}harm a=3;");
@@ -362,6 +379,7 @@ public final class RowEdgesTest {
         wayBack();
         manyPages();
         stuckByHours();
+        hoursBeyondAll();
         versions();
         DUE.ends();
     }
